@@ -354,6 +354,18 @@ public final class PromiseTest {
         due(0, x.cut(11, 89));
         dueNote(x, 2, 7, 10, 10, 7, 0);
         due(3, x.cut(10, 1));
+
+        // one step is left of each, the first one behind what is cut
+        MusicHoles y = new MusicHoles();
+        y.note(0, 10, 20);
+        y.note(1, 14, 20);
+        y.note(2, 5, 9);
+        y.note(3, 5, 20);
+        due(0, y.cut(10, 10));
+        dueNote(y, 0, 2, 5, 9, 0, 0);
+        dueNote(y, 1, 3, 5, 10, 0, 0);
+        dueNote(y, 2, 0, 10, 10, 0, 0);
+        dueNote(y, 3, 1, 10, 10, 0, 0);
     }
 
     private static void copy() {
@@ -434,7 +446,7 @@ public final class PromiseTest {
         due(10, type(x, "0:5-4;1:1-"));
         due(MusicHoles.BAD_TEXT, x.read());
         due(10, x.count(11));
-        due(11, type(x, "0"));
+        due(11, type(x, "1"));
         due(MusicHoles.BAD_VALUE, x.read());
         due(11, x.count(11));
         x.wipe();
@@ -554,6 +566,7 @@ public final class PromiseTest {
         due(0, x.at(10, 0));
         due(0, x.at(10, 2));
         due(1, x.at(1, 2));
+        due(1 | 2 | 4 | 16, x.at(9, 2));
         due(1 | 2 | 4 | 16, x.at(3, 2));
         due(2, x.at(3, 3));
         due(3, x.at(4, 3));
@@ -667,6 +680,23 @@ public final class PromiseTest {
         x.cut(0, 100);
         due(MusicHoles.NONE, x.count(6));
         due(MusicHoles.NONE, x.count(3));
+
+        // the step 0 counts
+        MusicHoles y = new MusicHoles();
+        y.set(MusicHoles.WEAK, 2);
+        y.note(0, 0, 0);
+        due(0, y.count(6));
+        due(1, y.count(4));
+        due(1, y.count(1));
+        y.note(1, 0, 0);
+        due(2, y.count(1));
+        due(1, y.count(2));
+        due(0, y.count(3));
+        // the first note may end last
+        y.insert(0, 9);
+        y.note(5, 0, 99);
+        y.note(6, 3, 5);
+        due(99, y.count(6));
     }
 
     private static void bestShift() {
@@ -731,6 +761,19 @@ public final class PromiseTest {
         z.note(1, 10, 13);
         due(12, z.bestShift(0, 0));
         due(0, z.bestShift(0, 1));
+        // two pairs of tracks make the paper weak at every step, whatever the shift of another note is
+        MusicHoles w = new MusicHoles();
+        w.set(MusicHoles.RUN, 9);
+        w.set(MusicHoles.WEAK, 2);
+        for (int track = 0; track < 4; track++) {
+            w.note(track < 2 ? track : track + 3, 0, 99);
+            w.shift(track, track < 2 ? 0 : 5);
+        }
+        w.note(11, 0, 40);
+        due(100, w.count(2));
+        due(0, w.bestShift(4, 0));
+        due(100, w.bestShift(4, 1));
+        due(MusicHoles.NONE, w.greatestRun());
     }
 
     private static void greatestRun() {
@@ -819,6 +862,9 @@ public final class PromiseTest {
         due(MusicHoles.NONE, y.freeGoal(0, 0));
         due(MusicHoles.NONE, y.freeGoal(17, 18));
         y.drop(38);
+        due(38, y.count(0));
+        due(1, y.freeGoal(18, 18));
+        due(MusicHoles.NONE, y.freeGoal(16, 16));
         y.drop(37);
         due(1, y.freeGoal(18, 18));
     }
