@@ -86,6 +86,10 @@ public final class FaceTest {
             due(true, Modifier.isStatic(nested.getModifiers()), "static " + nested);
             due(false, Modifier.isPublic(nested.getModifiers()), "public " + nested);
             due(true, nested.getDeclaredFields().length <= 26, "fields of " + nested);
+            for (Method method : nested.getDeclaredMethods()) {
+                due(false, METHODS.stream().anyMatch(it -> it.startsWith(method.getName() + "(")), "a nested " + method);
+                due(true, method.getParameterCount() <= 7, "parameters of " + method);
+            }
         }
         due(true, MusicHoles.class.getDeclaredClasses().length <= 11, "number of classes");
     }

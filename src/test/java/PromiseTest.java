@@ -1,97 +1,37 @@
 /** Each promise of the document by hand: ordinary inputs, edges, wrong inputs and the order of the errors. */
-public final class PromiseTest {
-    private static final int LOW = Integer.MIN_VALUE;
-    private static final int HIGH = Integer.MAX_VALUE;
-
-    private static int wrong = 0;
-    private static int promise = 0;
-    private static int row = 0;
-
-    private static void begin(int number) {
-        promise = number;
-        row = 0;
-    }
-
-    private static void due(long want, long got) {
-        row++;
-        if (got != want) {
-            wrong++;
-            System.out.println("promise " + promise + ", row " + row + ": answered " + got + ", due is " + want
-                    + " (line " + new Throwable().getStackTrace()[1].getLineNumber() + ")");
-        }
-    }
-
-    private static int type(MusicHoles x, String text) {
-        int length = x.count(11);
-        for (int i = 0; i < text.length(); i += 8) {
-            long characters = 0;
-            for (int j = i; j < Math.min(i + 8, text.length()); j++) {
-                characters = characters << 8 | text.charAt(j);
-            }
-            length = x.put(characters);
-        }
-        return length;
-    }
-
-    private static int faultOf(String text) {
-        MusicHoles x = new MusicHoles();
-        type(x, text);
-        return x.fault();
-    }
-
-    /** 40 notes of one step: tracks 0 to 3, steps 0, 2, .. 18. */
-    private static MusicHoles full() {
-        MusicHoles x = new MusicHoles();
-        for (int i = 0; i < 40; i++) {
-            x.note(i / 10, 2 * (i % 10), 2 * (i % 10));
-        }
-        return x;
-    }
-
-    private static void dueNote(MusicHoles x, int note, int track, int first, int last, int shift, int accent) {
-        due(track, x.of(note, 0));
-        due(first, x.of(note, 1));
-        due(last, x.of(note, 2));
-        due(shift, x.of(note, 3));
-        due(accent, x.of(note, 4));
-    }
-
+public final class PromiseTest extends Check {
     public static void main(String[] args) {
-        newObject();
-        set();
-        note();
-        drop();
-        shift();
-        accent();
-        insert();
-        cut();
-        cutOrder();
-        copy();
-        read();
-        of();
-        at();
-        sound();
-        count();
-        bestShift();
-        greatestRun();
-        swallowed();
-        freeGoal();
-        put();
-        wipe();
-        fault();
-        undo();
-        save();
-        restore();
-        System.out.println(wrong == 0 ? "PromiseTest: all as due" : "PromiseTest: " + wrong + " not as due");
-        if (wrong != 0) {
-            System.exit(1);
-        }
+        test("promise 1: newObject", PromiseTest::newObject);
+        test("promise 2: set", PromiseTest::set);
+        test("promise 3: note", PromiseTest::note);
+        test("promise 4: drop", PromiseTest::drop);
+        test("promise 5: shift", PromiseTest::shift);
+        test("promise 6: accent", PromiseTest::accent);
+        test("promise 7: insert", PromiseTest::insert);
+        test("promise 8: cut", PromiseTest::cut);
+        test("promise 8: cutOrder", PromiseTest::cutOrder);
+        test("promise 9: copy", PromiseTest::copy);
+        test("promise 10: read", PromiseTest::read);
+        test("promise 11: of", PromiseTest::of);
+        test("promise 12: at", PromiseTest::at);
+        test("promise 13: sound", PromiseTest::sound);
+        test("promise 14: count", PromiseTest::count);
+        test("promise 15: bestShift", PromiseTest::bestShift);
+        test("promise 16: greatestRun", PromiseTest::greatestRun);
+        test("promise 17: swallowed", PromiseTest::swallowed);
+        test("promise 18: freeGoal", PromiseTest::freeGoal);
+        test("promise 19: put", PromiseTest::put);
+        test("promise 20: wipe", PromiseTest::wipe);
+        test("promise 21: fault", PromiseTest::fault);
+        test("promise 22: undo", PromiseTest::undo);
+        test("promise 23: save", PromiseTest::save);
+        test("promise 24: restore", PromiseTest::restore);
+        end("PromiseTest");
     }
 
     private static void newObject() {
-        begin(1);
         MusicHoles x = new MusicHoles();
-        int[] counts = {0, 0, 0, MusicHoles.NONE, 0, 0, MusicHoles.NONE, 3, 1, 1, 4, 0, 0};
+        int[] counts = {0, 0, 0, NONE, 0, 0, NONE, 3, 1, 1, 4, 0, 0};
         for (int what = 0; what < counts.length; what++) {
             due(counts[what], x.count(what));
         }
@@ -99,25 +39,24 @@ public final class PromiseTest {
             due(0, x.at(0, what));
             due(0, x.at(99, what));
         }
-        due(MusicHoles.NOT_POSSIBLE, x.restore(0));
-        due(MusicHoles.NOT_POSSIBLE, x.restore(1));
-        due(MusicHoles.NOT_POSSIBLE, x.undo());
-        due(MusicHoles.NO_SUCH, x.of(0, 0));
+        due(NOT_POSSIBLE, x.restore(0));
+        due(NOT_POSSIBLE, x.restore(1));
+        due(NOT_POSSIBLE, x.undo());
+        due(NO_SUCH, x.of(0, 0));
         new MusicHoles().note(0, 0, 0);
         due(0, x.count(0));
     }
 
     private static void set() {
-        begin(2);
         int[] least = {1, 1, 0, 2};
         int[] greatest = {9, 4, 4, 12};
         int[] before = {3, 1, 1, 4};
         MusicHoles x = new MusicHoles();
         for (int setting = 0; setting < 4; setting++) {
-            due(MusicHoles.BAD_VALUE, x.set(setting, least[setting] - 1));
-            due(MusicHoles.BAD_VALUE, x.set(setting, greatest[setting] + 1));
-            due(MusicHoles.BAD_VALUE, x.set(setting, LOW));
-            due(MusicHoles.BAD_VALUE, x.set(setting, HIGH));
+            due(BAD_VALUE, x.set(setting, least[setting] - 1));
+            due(BAD_VALUE, x.set(setting, greatest[setting] + 1));
+            due(BAD_VALUE, x.set(setting, LOW));
+            due(BAD_VALUE, x.set(setting, HIGH));
             due(before[setting], x.count(7 + setting));
             due(0, x.count(12));
             due(before[setting], x.set(setting, least[setting]));
@@ -129,14 +68,13 @@ public final class PromiseTest {
             x.undo();
             x.undo();
         }
-        due(MusicHoles.BAD_VALUE, x.set(-1, 2));
-        due(MusicHoles.BAD_VALUE, x.set(4, 2));
-        due(MusicHoles.BAD_VALUE, x.set(LOW, 2));
-        due(MusicHoles.BAD_VALUE, x.set(HIGH, 2));
+        due(BAD_VALUE, x.set(-1, 2));
+        due(BAD_VALUE, x.set(4, 2));
+        due(BAD_VALUE, x.set(LOW, 2));
+        due(BAD_VALUE, x.set(HIGH, 2));
     }
 
     private static void note() {
-        begin(3);
         MusicHoles x = new MusicHoles();
         due(0, x.note(5, 10, 20));
         due(0, x.note(11, 0, 0));
@@ -149,29 +87,29 @@ public final class PromiseTest {
         dueNote(x, 3, 6, 10, 99, 0, 0);
         dueNote(x, 4, 0, 99, 99, 0, 0);
         due(5, x.count(12));
-        due(MusicHoles.NO_SUCH, x.note(-1, 0, 0));
-        due(MusicHoles.NO_SUCH, x.note(12, 5, 4));
-        due(MusicHoles.NO_SUCH, x.note(LOW, 0, 0));
-        due(MusicHoles.NO_SUCH, x.note(HIGH, 0, 0));
-        due(MusicHoles.BAD_VALUE, x.note(5, -1, 0));
-        due(MusicHoles.BAD_VALUE, x.note(5, 0, 100));
-        due(MusicHoles.BAD_VALUE, x.note(5, 100, 100));
-        due(MusicHoles.BAD_VALUE, x.note(5, 15, 14));
-        due(MusicHoles.BAD_VALUE, x.note(5, LOW, HIGH));
-        due(MusicHoles.NOT_POSSIBLE, x.note(5, 20, 30));
-        due(MusicHoles.NOT_POSSIBLE, x.note(5, 0, 10));
-        due(MusicHoles.NOT_POSSIBLE, x.note(5, 12, 13));
-        due(MusicHoles.NOT_POSSIBLE, x.note(5, 0, 99));
+        due(NO_SUCH, x.note(-1, 0, 0));
+        due(NO_SUCH, x.note(12, 5, 4));
+        due(NO_SUCH, x.note(LOW, 0, 0));
+        due(NO_SUCH, x.note(HIGH, 0, 0));
+        due(BAD_VALUE, x.note(5, -1, 0));
+        due(BAD_VALUE, x.note(5, 0, 100));
+        due(BAD_VALUE, x.note(5, 100, 100));
+        due(BAD_VALUE, x.note(5, 15, 14));
+        due(BAD_VALUE, x.note(5, LOW, HIGH));
+        due(NOT_POSSIBLE, x.note(5, 20, 30));
+        due(NOT_POSSIBLE, x.note(5, 0, 10));
+        due(NOT_POSSIBLE, x.note(5, 12, 13));
+        due(NOT_POSSIBLE, x.note(5, 0, 99));
         due(5, x.count(12));
         due(0, x.note(5, 0, 9));
         due(5, x.note(5, 21, 22));
 
         MusicHoles y = full();
         due(40, y.count(0));
-        due(MusicHoles.NO_SUCH, y.note(12, 0, 0));
-        due(MusicHoles.BAD_VALUE, y.note(0, 5, 4));
-        due(MusicHoles.TOO_MANY, y.note(0, 0, 0));
-        due(MusicHoles.TOO_MANY, y.note(0, 50, 50));
+        due(NO_SUCH, y.note(12, 0, 0));
+        due(BAD_VALUE, y.note(0, 5, 4));
+        due(TOO_MANY, y.note(0, 0, 0));
+        due(TOO_MANY, y.note(0, 50, 50));
         due(40, y.count(0));
         y.drop(0);
         due(39, y.note(0, 50, 50));
@@ -179,18 +117,17 @@ public final class PromiseTest {
     }
 
     private static void drop() {
-        begin(4);
         MusicHoles x = new MusicHoles();
-        due(MusicHoles.NO_SUCH, x.drop(0));
+        due(NO_SUCH, x.drop(0));
         x.note(1, 10, 12);
         x.note(2, 20, 22);
         x.note(3, 30, 32);
         x.shift(2, 7);
         x.accent(2, true);
-        due(MusicHoles.NO_SUCH, x.drop(3));
-        due(MusicHoles.NO_SUCH, x.drop(-1));
-        due(MusicHoles.NO_SUCH, x.drop(LOW));
-        due(MusicHoles.NO_SUCH, x.drop(HIGH));
+        due(NO_SUCH, x.drop(3));
+        due(NO_SUCH, x.drop(-1));
+        due(NO_SUCH, x.drop(LOW));
+        due(NO_SUCH, x.drop(HIGH));
         due(5, x.count(12));
         due(2, x.drop(1));
         due(6, x.count(12));
@@ -198,21 +135,20 @@ public final class PromiseTest {
         dueNote(x, 1, 3, 30, 32, 7, 1);
         due(1, x.drop(1));
         due(0, x.drop(0));
-        due(MusicHoles.NO_SUCH, x.drop(0));
+        due(NO_SUCH, x.drop(0));
         due(0, x.count(1));
     }
 
     private static void shift() {
-        begin(5);
         MusicHoles x = new MusicHoles();
-        due(MusicHoles.NO_SUCH, x.shift(0, 13));
+        due(NO_SUCH, x.shift(0, 13));
         x.note(0, 10, 20);
-        due(MusicHoles.NO_SUCH, x.shift(1, 0));
-        due(MusicHoles.NO_SUCH, x.shift(-1, -1));
-        due(MusicHoles.BAD_VALUE, x.shift(0, -1));
-        due(MusicHoles.BAD_VALUE, x.shift(0, 13));
-        due(MusicHoles.BAD_VALUE, x.shift(0, LOW));
-        due(MusicHoles.BAD_VALUE, x.shift(0, HIGH));
+        due(NO_SUCH, x.shift(1, 0));
+        due(NO_SUCH, x.shift(-1, -1));
+        due(BAD_VALUE, x.shift(0, -1));
+        due(BAD_VALUE, x.shift(0, 13));
+        due(BAD_VALUE, x.shift(0, LOW));
+        due(BAD_VALUE, x.shift(0, HIGH));
         due(1, x.count(12));
         due(0, x.shift(0, 12));
         due(12, x.shift(0, 2));
@@ -228,12 +164,11 @@ public final class PromiseTest {
     }
 
     private static void accent() {
-        begin(6);
         MusicHoles x = new MusicHoles();
-        due(MusicHoles.NO_SUCH, x.accent(0, true));
+        due(NO_SUCH, x.accent(0, true));
         x.note(0, 10, 20);
-        due(MusicHoles.NO_SUCH, x.accent(1, true));
-        due(MusicHoles.NO_SUCH, x.accent(-1, false));
+        due(NO_SUCH, x.accent(1, true));
+        due(NO_SUCH, x.accent(-1, false));
         due(1, x.count(12));
         due(0, x.accent(0, false));
         due(0, x.accent(0, true));
@@ -261,7 +196,6 @@ public final class PromiseTest {
     }
 
     private static void insert() {
-        begin(7);
         MusicHoles x = new MusicHoles();
         due(0, x.insert(0, 50));
         x.note(0, 10, 20);
@@ -270,13 +204,13 @@ public final class PromiseTest {
         x.note(3, 0, 19);
         x.shift(1, 5);
         x.accent(1, true);
-        due(MusicHoles.BAD_VALUE, x.insert(-1, 1));
-        due(MusicHoles.BAD_VALUE, x.insert(100, 1));
-        due(MusicHoles.BAD_VALUE, x.insert(0, 0));
-        due(MusicHoles.BAD_VALUE, x.insert(0, 51));
-        due(MusicHoles.BAD_VALUE, x.insert(LOW, 1));
-        due(MusicHoles.BAD_VALUE, x.insert(0, HIGH));
-        due(MusicHoles.BAD_VALUE, x.insert(0, LOW));
+        due(BAD_VALUE, x.insert(-1, 1));
+        due(BAD_VALUE, x.insert(100, 1));
+        due(BAD_VALUE, x.insert(0, 0));
+        due(BAD_VALUE, x.insert(0, 51));
+        due(BAD_VALUE, x.insert(LOW, 1));
+        due(BAD_VALUE, x.insert(0, HIGH));
+        due(BAD_VALUE, x.insert(0, LOW));
         due(1, x.insert(20, 3));
         dueNote(x, 0, 3, 0, 19, 0, 0);
         dueNote(x, 1, 0, 10, 23, 5, 1);
@@ -285,27 +219,26 @@ public final class PromiseTest {
         due(2, x.insert(11, 50));
         due(93, x.of(3, 2));
         due(0, x.insert(99, 50));
-        due(MusicHoles.NOT_POSSIBLE, x.insert(93, 7));
+        due(NOT_POSSIBLE, x.insert(93, 7));
         due(6, x.count(12));
         due(1, x.insert(93, 6));
         due(99, x.of(3, 2));
-        due(MusicHoles.NOT_POSSIBLE, x.insert(99, 1));
-        due(MusicHoles.NOT_POSSIBLE, x.insert(0, 1));
+        due(NOT_POSSIBLE, x.insert(99, 1));
+        due(NOT_POSSIBLE, x.insert(0, 1));
         due(0, x.of(0, 1));
     }
 
     private static void cut() {
-        begin(8);
         MusicHoles x = new MusicHoles();
-        due(MusicHoles.BAD_VALUE, x.cut(-1, 1));
-        due(MusicHoles.BAD_VALUE, x.cut(100, 1));
-        due(MusicHoles.BAD_VALUE, x.cut(0, 0));
-        due(MusicHoles.BAD_VALUE, x.cut(0, 101));
-        due(MusicHoles.BAD_VALUE, x.cut(50, 51));
-        due(MusicHoles.BAD_VALUE, x.cut(99, 2));
-        due(MusicHoles.BAD_VALUE, x.cut(LOW, 1));
-        due(MusicHoles.BAD_VALUE, x.cut(0, LOW));
-        due(MusicHoles.BAD_VALUE, x.cut(HIGH, HIGH));
+        due(BAD_VALUE, x.cut(-1, 1));
+        due(BAD_VALUE, x.cut(100, 1));
+        due(BAD_VALUE, x.cut(0, 0));
+        due(BAD_VALUE, x.cut(0, 101));
+        due(BAD_VALUE, x.cut(50, 51));
+        due(BAD_VALUE, x.cut(99, 2));
+        due(BAD_VALUE, x.cut(LOW, 1));
+        due(BAD_VALUE, x.cut(0, LOW));
+        due(BAD_VALUE, x.cut(HIGH, HIGH));
         due(0, x.count(12));
         due(0, x.cut(0, 100));
         due(0, x.cut(99, 1));
@@ -332,14 +265,13 @@ public final class PromiseTest {
         dueNote(x, 3, 0, 10, 20, 0, 1);
         dueNote(x, 4, 3, 11, 12, 0, 0);
         // side by side, but not one note
-        due(MusicHoles.NOT_POSSIBLE, x.note(0, 10, 10));
-        due(MusicHoles.NOT_POSSIBLE, x.note(0, 9, 9));
+        due(NOT_POSSIBLE, x.note(0, 10, 10));
+        due(NOT_POSSIBLE, x.note(0, 9, 9));
         due(5, x.undo());
         dueNote(x, 4, 2, 10, 19, 0, 0);
     }
 
     private static void cutOrder() {
-        begin(8);
         MusicHoles x = new MusicHoles();
         x.note(7, 10, 30);
         x.note(2, 14, 30);
@@ -369,7 +301,6 @@ public final class PromiseTest {
     }
 
     private static void copy() {
-        begin(9);
         MusicHoles x = new MusicHoles();
         x.note(0, 10, 14);
         x.note(1, 12, 20);
@@ -377,14 +308,14 @@ public final class PromiseTest {
         x.note(3, 9, 12);
         x.shift(1, 4);
         x.accent(2, true);
-        due(MusicHoles.BAD_VALUE, x.copy(-1, 5, 0));
-        due(MusicHoles.BAD_VALUE, x.copy(5, 4, 0));
-        due(MusicHoles.BAD_VALUE, x.copy(0, 100, 0));
-        due(MusicHoles.BAD_VALUE, x.copy(100, 100, 0));
-        due(MusicHoles.BAD_VALUE, x.copy(0, 5, -1));
-        due(MusicHoles.BAD_VALUE, x.copy(0, 5, 100));
-        due(MusicHoles.BAD_VALUE, x.copy(LOW, HIGH, 0));
-        due(MusicHoles.BAD_VALUE, x.copy(0, 5, HIGH));
+        due(BAD_VALUE, x.copy(-1, 5, 0));
+        due(BAD_VALUE, x.copy(5, 4, 0));
+        due(BAD_VALUE, x.copy(0, 100, 0));
+        due(BAD_VALUE, x.copy(100, 100, 0));
+        due(BAD_VALUE, x.copy(0, 5, -1));
+        due(BAD_VALUE, x.copy(0, 5, 100));
+        due(BAD_VALUE, x.copy(LOW, HIGH, 0));
+        due(BAD_VALUE, x.copy(0, 5, HIGH));
         due(6, x.count(12));
         // the step 10 comes to 50; the notes 9-12 and 21-25 are not wholly between
         due(2, x.copy(10, 20, 50));
@@ -398,28 +329,28 @@ public final class PromiseTest {
         due(2, x.copy(5, 15, 0));
         dueNote(x, 0, 3, 4, 7, 0, 0);
         dueNote(x, 1, 0, 5, 9, 4, 0);
-        due(MusicHoles.NOT_POSSIBLE, x.copy(10, 20, 90));
+        due(NOT_POSSIBLE, x.copy(10, 20, 90));
         due(1, x.copy(10, 14, 95));
         due(99, x.of(x.count(0) - 1, 2));
         // the passage itself stays
-        due(MusicHoles.NOT_POSSIBLE, x.copy(10, 20, 10));
-        due(MusicHoles.NOT_POSSIBLE, x.copy(10, 20, 14));
+        due(NOT_POSSIBLE, x.copy(10, 20, 10));
+        due(NOT_POSSIBLE, x.copy(10, 20, 14));
         due(2, x.copy(10, 20, 19));
         dueNote(x, 5, 0, 19, 23, 4, 0);
         dueNote(x, 6, 1, 21, 29, 0, 1);
 
         MusicHoles y = full();
-        due(MusicHoles.BAD_VALUE, y.copy(0, 0, 100));
-        due(MusicHoles.TOO_MANY, y.copy(0, 0, 0));
-        due(MusicHoles.TOO_MANY, y.copy(0, 0, 50));
+        due(BAD_VALUE, y.copy(0, 0, 100));
+        due(TOO_MANY, y.copy(0, 0, 0));
+        due(TOO_MANY, y.copy(0, 0, 50));
         due(0, y.copy(1, 1, 0));
         y.drop(39);
         y.drop(38);
         y.drop(37);
         due(37, y.count(0));
-        due(MusicHoles.TOO_MANY, y.copy(0, 0, 50));
+        due(TOO_MANY, y.copy(0, 0, 50));
         y.drop(36);
-        due(MusicHoles.NOT_POSSIBLE, y.copy(0, 0, 2));
+        due(NOT_POSSIBLE, y.copy(0, 0, 2));
         due(4, y.copy(0, 0, 99));
         due(40, y.count(0));
         due(3, y.of(39, 0));
@@ -427,9 +358,8 @@ public final class PromiseTest {
     }
 
     private static void read() {
-        begin(10);
         MusicHoles x = new MusicHoles();
-        due(MusicHoles.BAD_TEXT, x.read());
+        due(BAD_TEXT, x.read());
         due(9, type(x, "11:90-99!"));
         due(1, x.read());
         due(0, x.count(11));
@@ -441,26 +371,26 @@ public final class PromiseTest {
         dueNote(x, 1, 3, 0, 0, 0, 0);
         dueNote(x, 2, 0, 20, 29, 0, 0);
         dueNote(x, 3, 11, 90, 99, 0, 1);
-        due(MusicHoles.BAD_TEXT, x.read());
+        due(BAD_TEXT, x.read());
 
         due(10, type(x, "0:5-4;1:1-"));
-        due(MusicHoles.BAD_TEXT, x.read());
+        due(BAD_TEXT, x.read());
         due(10, x.count(11));
         due(11, type(x, "1"));
-        due(MusicHoles.BAD_VALUE, x.read());
+        due(BAD_VALUE, x.read());
         due(11, x.count(11));
         x.wipe();
         type(x, "4:5-5;0:29-30");
-        due(MusicHoles.NOT_POSSIBLE, x.read());
+        due(NOT_POSSIBLE, x.read());
         due(4, x.count(0));
         due(13, x.count(11));
         x.wipe();
         type(x, "5:5-9;5:9-12");
-        due(MusicHoles.NOT_POSSIBLE, x.read());
+        due(NOT_POSSIBLE, x.read());
         due(4, x.count(0));
         x.wipe();
         type(x, "0:20-29;5:9-8");
-        due(MusicHoles.BAD_VALUE, x.read());
+        due(BAD_VALUE, x.read());
         due(2, x.count(12));
         due(1, x.undo());
         due(13, x.count(11));
@@ -468,13 +398,13 @@ public final class PromiseTest {
         MusicHoles y = full();
         y.drop(39);
         due(11, type(y, "0:0-0;1:1-0"));
-        due(MusicHoles.BAD_VALUE, y.read());
+        due(BAD_VALUE, y.read());
         y.wipe();
         type(y, "0:0-0;1:0-0");
-        due(MusicHoles.TOO_MANY, y.read());
+        due(TOO_MANY, y.read());
         y.wipe();
         type(y, "0:0-0");
-        due(MusicHoles.NOT_POSSIBLE, y.read());
+        due(NOT_POSSIBLE, y.read());
         y.wipe();
         type(y, "0:99-99");
         due(40, y.read());
@@ -487,16 +417,15 @@ public final class PromiseTest {
     }
 
     private static void of() {
-        begin(11);
         MusicHoles x = new MusicHoles();
-        due(MusicHoles.NO_SUCH, x.of(0, 8));
+        due(NO_SUCH, x.of(0, 8));
         x.note(4, 10, 30);
-        due(MusicHoles.NO_SUCH, x.of(1, 0));
-        due(MusicHoles.NO_SUCH, x.of(-1, 0));
-        due(MusicHoles.NO_SUCH, x.of(HIGH, -1));
-        due(MusicHoles.BAD_VALUE, x.of(0, -1));
-        due(MusicHoles.BAD_VALUE, x.of(0, 8));
-        due(MusicHoles.BAD_VALUE, x.of(0, LOW));
+        due(NO_SUCH, x.of(1, 0));
+        due(NO_SUCH, x.of(-1, 0));
+        due(NO_SUCH, x.of(HIGH, -1));
+        due(BAD_VALUE, x.of(0, -1));
+        due(BAD_VALUE, x.of(0, 8));
+        due(BAD_VALUE, x.of(0, LOW));
         dueNote(x, 0, 4, 10, 30, 0, 0);
         due(5, x.of(0, 5));
         due(1, x.of(0, 6));
@@ -543,14 +472,13 @@ public final class PromiseTest {
     }
 
     private static void at() {
-        begin(12);
         MusicHoles x = new MusicHoles();
-        due(MusicHoles.BAD_VALUE, x.at(-1, 0));
-        due(MusicHoles.BAD_VALUE, x.at(100, 0));
-        due(MusicHoles.BAD_VALUE, x.at(LOW, 0));
-        due(MusicHoles.BAD_VALUE, x.at(0, -1));
-        due(MusicHoles.BAD_VALUE, x.at(0, 5));
-        due(MusicHoles.BAD_VALUE, x.at(0, HIGH));
+        due(BAD_VALUE, x.at(-1, 0));
+        due(BAD_VALUE, x.at(100, 0));
+        due(BAD_VALUE, x.at(LOW, 0));
+        due(BAD_VALUE, x.at(0, -1));
+        due(BAD_VALUE, x.at(0, 5));
+        due(BAD_VALUE, x.at(0, HIGH));
         x.note(0, 0, 9);
         x.note(1, 2, 9);
         x.note(2, 3, 9);
@@ -594,11 +522,10 @@ public final class PromiseTest {
     }
 
     private static void sound() {
-        begin(13);
         MusicHoles x = new MusicHoles();
-        due(MusicHoles.NO_SUCH, x.sound(0, 0, 0));
-        due(MusicHoles.NO_SUCH, x.sound(-1, 0, 3));
-        due(MusicHoles.NO_SUCH, x.sound(12, 0, 0));
+        due(NO_SUCH, x.sound(0, 0, 0));
+        due(NO_SUCH, x.sound(-1, 0, 3));
+        due(NO_SUCH, x.sound(12, 0, 0));
         x.note(6, 0, 4);
         x.note(6, 6, 7);
         x.note(6, 20, 20);
@@ -612,14 +539,14 @@ public final class PromiseTest {
                 due(sounds[sound][what], x.sound(6, sound, what));
             }
         }
-        due(MusicHoles.NO_SUCH, x.sound(6, 4, 0));
-        due(MusicHoles.NO_SUCH, x.sound(6, 4, 3));
-        due(MusicHoles.NO_SUCH, x.sound(6, -1, 0));
-        due(MusicHoles.NO_SUCH, x.sound(6, LOW, 0));
-        due(MusicHoles.NO_SUCH, x.sound(6, HIGH, -1));
-        due(MusicHoles.BAD_VALUE, x.sound(6, 0, 3));
-        due(MusicHoles.BAD_VALUE, x.sound(6, 0, -1));
-        due(MusicHoles.BAD_VALUE, x.sound(6, 3, HIGH));
+        due(NO_SUCH, x.sound(6, 4, 0));
+        due(NO_SUCH, x.sound(6, 4, 3));
+        due(NO_SUCH, x.sound(6, -1, 0));
+        due(NO_SUCH, x.sound(6, LOW, 0));
+        due(NO_SUCH, x.sound(6, HIGH, -1));
+        due(BAD_VALUE, x.sound(6, 0, 3));
+        due(BAD_VALUE, x.sound(6, 0, -1));
+        due(BAD_VALUE, x.sound(6, 3, HIGH));
         // one long note that is heard in pieces has a step in each of them
         x.set(MusicHoles.HEAR, 0);
         due(0, x.sound(6, 0, 0));
@@ -631,12 +558,11 @@ public final class PromiseTest {
     }
 
     private static void count() {
-        begin(14);
         MusicHoles x = new MusicHoles();
-        due(MusicHoles.BAD_VALUE, x.count(-1));
-        due(MusicHoles.BAD_VALUE, x.count(13));
-        due(MusicHoles.BAD_VALUE, x.count(LOW));
-        due(MusicHoles.BAD_VALUE, x.count(HIGH));
+        due(BAD_VALUE, x.count(-1));
+        due(BAD_VALUE, x.count(13));
+        due(BAD_VALUE, x.count(LOW));
+        due(BAD_VALUE, x.count(HIGH));
         x.note(3, 10, 19);
         x.note(4, 10, 19);
         x.note(5, 12, 13);
@@ -644,7 +570,7 @@ public final class PromiseTest {
         due(4, x.count(0));
         due(8 + 8 + 2 + 1, x.count(1));
         due(0, x.count(2));
-        due(MusicHoles.NONE, x.count(3));
+        due(NONE, x.count(3));
         due(4, x.count(4));
         due(0, x.count(5));
         due(50, x.count(6));
@@ -678,8 +604,8 @@ public final class PromiseTest {
         x.note(0, 15, 16);
         due(19, x.count(6));
         x.cut(0, 100);
-        due(MusicHoles.NONE, x.count(6));
-        due(MusicHoles.NONE, x.count(3));
+        due(NONE, x.count(6));
+        due(NONE, x.count(3));
 
         // the step 0 counts
         MusicHoles y = new MusicHoles();
@@ -700,15 +626,14 @@ public final class PromiseTest {
     }
 
     private static void bestShift() {
-        begin(15);
         MusicHoles x = new MusicHoles();
-        due(MusicHoles.NO_SUCH, x.bestShift(0, 2));
+        due(NO_SUCH, x.bestShift(0, 2));
         x.note(0, 0, 12);
-        due(MusicHoles.NO_SUCH, x.bestShift(-1, 0));
-        due(MusicHoles.NO_SUCH, x.bestShift(1, 0));
-        due(MusicHoles.BAD_VALUE, x.bestShift(0, -1));
-        due(MusicHoles.BAD_VALUE, x.bestShift(0, 2));
-        due(MusicHoles.BAD_VALUE, x.bestShift(0, HIGH));
+        due(NO_SUCH, x.bestShift(-1, 0));
+        due(NO_SUCH, x.bestShift(1, 0));
+        due(BAD_VALUE, x.bestShift(0, -1));
+        due(BAD_VALUE, x.bestShift(0, 2));
+        due(BAD_VALUE, x.bestShift(0, HIGH));
         x.shift(0, 5);
         due(0, x.bestShift(0, 0));
         due(0, x.bestShift(0, 1));
@@ -773,11 +698,10 @@ public final class PromiseTest {
         due(100, w.count(2));
         due(0, w.bestShift(4, 0));
         due(100, w.bestShift(4, 1));
-        due(MusicHoles.NONE, w.greatestRun());
+        due(NONE, w.greatestRun());
     }
 
     private static void greatestRun() {
-        begin(16);
         MusicHoles x = new MusicHoles();
         due(9, x.greatestRun());
         x.set(MusicHoles.WEAK, 2);
@@ -795,18 +719,17 @@ public final class PromiseTest {
         due(1, x.greatestRun());
         x.note(1, 8, 8);
         // the last step of the track 0 has a hole always
-        due(MusicHoles.NONE, x.greatestRun());
+        due(NONE, x.greatestRun());
         x.set(MusicHoles.WEAK, 3);
         due(9, x.greatestRun());
         due(3, x.count(7));
     }
 
     private static void swallowed() {
-        begin(17);
         MusicHoles x = new MusicHoles();
-        due(MusicHoles.NO_SUCH, x.swallowed(-1));
-        due(MusicHoles.NO_SUCH, x.swallowed(12));
-        due(MusicHoles.NO_SUCH, x.swallowed(LOW));
+        due(NO_SUCH, x.swallowed(-1));
+        due(NO_SUCH, x.swallowed(12));
+        due(NO_SUCH, x.swallowed(LOW));
         due(0, x.swallowed(0));
         x.note(11, 0, 4);
         x.note(11, 6, 7);
@@ -831,17 +754,16 @@ public final class PromiseTest {
     }
 
     private static void freeGoal() {
-        begin(18);
         MusicHoles x = new MusicHoles();
-        due(MusicHoles.BAD_VALUE, x.freeGoal(-1, 0));
-        due(MusicHoles.BAD_VALUE, x.freeGoal(1, 0));
-        due(MusicHoles.BAD_VALUE, x.freeGoal(0, 100));
-        due(MusicHoles.BAD_VALUE, x.freeGoal(LOW, HIGH));
-        due(MusicHoles.NONE, x.freeGoal(0, 99));
+        due(BAD_VALUE, x.freeGoal(-1, 0));
+        due(BAD_VALUE, x.freeGoal(1, 0));
+        due(BAD_VALUE, x.freeGoal(0, 100));
+        due(BAD_VALUE, x.freeGoal(LOW, HIGH));
+        due(NONE, x.freeGoal(0, 99));
         x.note(0, 10, 14);
         due(0, x.freeGoal(10, 14));
-        due(MusicHoles.NONE, x.freeGoal(11, 99));
-        due(MusicHoles.NONE, x.freeGoal(0, 13));
+        due(NONE, x.freeGoal(11, 99));
+        due(NONE, x.freeGoal(0, 13));
         // the note lies 8 steps behind the passage's first one, and may not meet itself
         due(0, x.freeGoal(5, 14));
         due(7, x.freeGoal(2, 20));
@@ -853,39 +775,38 @@ public final class PromiseTest {
         x.note(0, 15, 94);
         due(95, x.freeGoal(10, 14));
         x.note(0, 99, 99);
-        due(MusicHoles.NONE, x.freeGoal(10, 14));
+        due(NONE, x.freeGoal(10, 14));
         due(5, x.count(0));
         due(5, x.count(12));
         MusicHoles y = full();
-        due(MusicHoles.NONE, y.freeGoal(0, 0));
+        due(NONE, y.freeGoal(0, 0));
         y.drop(39);
-        due(MusicHoles.NONE, y.freeGoal(0, 0));
-        due(MusicHoles.NONE, y.freeGoal(17, 18));
+        due(NONE, y.freeGoal(0, 0));
+        due(NONE, y.freeGoal(17, 18));
         y.drop(38);
         due(38, y.count(0));
         due(1, y.freeGoal(18, 18));
-        due(MusicHoles.NONE, y.freeGoal(16, 16));
+        due(NONE, y.freeGoal(16, 16));
         y.drop(37);
         due(1, y.freeGoal(18, 18));
     }
 
     private static void put() {
-        begin(19);
         MusicHoles x = new MusicHoles();
-        due(MusicHoles.BAD_VALUE, x.put(0));
-        due(MusicHoles.BAD_VALUE, x.put(32));
-        due(MusicHoles.BAD_VALUE, x.put(127));
-        due(MusicHoles.BAD_VALUE, x.put(255));
-        due(MusicHoles.BAD_VALUE, x.put(0x2000L | 65));
-        due(MusicHoles.BAD_VALUE, x.put(65L << 8));
-        due(MusicHoles.BAD_VALUE, x.put(65L << 16 | 65));
-        due(MusicHoles.BAD_VALUE, x.put(65L << 56 | 65));
-        due(MusicHoles.BAD_VALUE, x.put(1L << 63 | 65));
-        due(MusicHoles.BAD_VALUE, x.put(-1));
-        due(MusicHoles.BAD_VALUE, x.put(Long.MIN_VALUE));
-        due(MusicHoles.BAD_VALUE, x.put(Long.MAX_VALUE));
-        due(MusicHoles.BAD_VALUE, x.put(0x7f21212121212121L));
-        due(MusicHoles.BAD_VALUE, x.put(0x8121212121212121L));
+        due(BAD_VALUE, x.put(0));
+        due(BAD_VALUE, x.put(32));
+        due(BAD_VALUE, x.put(127));
+        due(BAD_VALUE, x.put(255));
+        due(BAD_VALUE, x.put(0x2000L | 65));
+        due(BAD_VALUE, x.put(65L << 8));
+        due(BAD_VALUE, x.put(65L << 16 | 65));
+        due(BAD_VALUE, x.put(65L << 56 | 65));
+        due(BAD_VALUE, x.put(1L << 63 | 65));
+        due(BAD_VALUE, x.put(-1));
+        due(BAD_VALUE, x.put(Long.MIN_VALUE));
+        due(BAD_VALUE, x.put(Long.MAX_VALUE));
+        due(BAD_VALUE, x.put(0x7f21212121212121L));
+        due(BAD_VALUE, x.put(0x8121212121212121L));
         due(0, x.count(11));
         due(1, x.put(33));
         due(2, x.put(126));
@@ -900,17 +821,16 @@ public final class PromiseTest {
         for (int i = 1; i <= 7; i++) {
             due(8 * i, x.put(0x4141414141414141L));
         }
-        due(MusicHoles.TOO_MANY, x.put(0x4141414141L));
-        due(MusicHoles.BAD_VALUE, x.put(0x2041414141L));
+        due(TOO_MANY, x.put(0x4141414141L));
+        due(BAD_VALUE, x.put(0x2041414141L));
         due(59, x.put(0x414141));
-        due(MusicHoles.TOO_MANY, x.put(0x4141));
+        due(TOO_MANY, x.put(0x4141));
         due(60, x.put(0x41));
-        due(MusicHoles.TOO_MANY, x.put(0x41));
+        due(TOO_MANY, x.put(0x41));
         due(60, x.count(11));
     }
 
     private static void wipe() {
-        begin(20);
         MusicHoles x = new MusicHoles();
         due(0, x.wipe());
         type(x, "1:2-3;4:5-6!");
@@ -923,16 +843,15 @@ public final class PromiseTest {
     }
 
     private static void fault() {
-        begin(21);
         String[] whole = {"0:0-0", "11:99-99!", "10:10-9", "9:5-4", "1:1-1;1:1-1!;2:2-2", "2:0-0!;3:0-10"};
         for (String text : whole) {
-            due(MusicHoles.NONE, faultOf(text));
+            due(NONE, faultOf(text));
             for (int end = 0; end < text.length(); end++) {
                 String part = text.substring(0, end);
                 int lastNote = part.lastIndexOf(';') + 1;
                 String note = part.substring(lastNote);
                 boolean complete = note.indexOf('-') >= 0 && !note.endsWith("-");
-                due(complete ? MusicHoles.NONE : end, faultOf(part));
+                due(complete ? NONE : end, faultOf(part));
             }
         }
         String[] faulty = {"12:", "00:", "01", "20", "-1", ":", "a", ";", "0-", "11x", "110:",
@@ -950,16 +869,15 @@ public final class PromiseTest {
         MusicHoles x = new MusicHoles();
         due(0, x.fault());
         type(x, "1:1-1");
-        due(MusicHoles.NONE, x.fault());
+        due(NONE, x.fault());
         due(5, x.count(11));
         due(0, x.count(12));
         due(0, x.count(0));
     }
 
     private static void undo() {
-        begin(22);
         MusicHoles x = new MusicHoles();
-        due(MusicHoles.NOT_POSSIBLE, x.undo());
+        due(NOT_POSSIBLE, x.undo());
         for (int i = 0; i < 8; i++) {
             x.note(0, i, i);
         }
@@ -968,7 +886,7 @@ public final class PromiseTest {
             due(i, x.undo());
             due(i + 2, x.count(0));
         }
-        due(MusicHoles.NOT_POSSIBLE, x.undo());
+        due(NOT_POSSIBLE, x.undo());
         due(2, x.count(0));
 
         // each kind of change, undone, with shifts, accents and settings; there are the notes 0-0 and 1-1
@@ -1037,12 +955,11 @@ public final class PromiseTest {
     }
 
     private static void save() {
-        begin(23);
         MusicHoles x = new MusicHoles();
-        due(MusicHoles.BAD_VALUE, x.save(-1));
-        due(MusicHoles.BAD_VALUE, x.save(2));
-        due(MusicHoles.BAD_VALUE, x.save(LOW));
-        due(MusicHoles.BAD_VALUE, x.save(HIGH));
+        due(BAD_VALUE, x.save(-1));
+        due(BAD_VALUE, x.save(2));
+        due(BAD_VALUE, x.save(LOW));
+        due(BAD_VALUE, x.save(HIGH));
         due(0, x.save(0));
         x.note(4, 5, 6);
         x.shift(0, 7);
@@ -1069,15 +986,14 @@ public final class PromiseTest {
     }
 
     private static void restore() {
-        begin(24);
         MusicHoles x = new MusicHoles();
-        due(MusicHoles.BAD_VALUE, x.restore(-1));
-        due(MusicHoles.BAD_VALUE, x.restore(2));
-        due(MusicHoles.BAD_VALUE, x.restore(LOW));
-        due(MusicHoles.BAD_VALUE, x.restore(HIGH));
-        due(MusicHoles.NOT_POSSIBLE, x.restore(0));
+        due(BAD_VALUE, x.restore(-1));
+        due(BAD_VALUE, x.restore(2));
+        due(BAD_VALUE, x.restore(LOW));
+        due(BAD_VALUE, x.restore(HIGH));
+        due(NOT_POSSIBLE, x.restore(0));
         x.save(0);
-        due(MusicHoles.NOT_POSSIBLE, x.restore(1));
+        due(NOT_POSSIBLE, x.restore(1));
         due(0, x.count(12));
         due(0, x.restore(0));
         due(1, x.count(12));
