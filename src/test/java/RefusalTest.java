@@ -144,10 +144,17 @@ public final class RefusalTest extends Check {
         same("save, slot below", BAD_VALUE, Check::rich, x -> x.save(-1));
     }
 
+    /** Two changes more than the history keeps, so that notes stay when all that can be undone is undone. */
     private static MusicHoles withoutHistory() {
         MusicHoles x = single(3, 4, 5);
+        x.note(2, 8, 20);
         x.save(1);
-        x.undo();
+        for (int shift = 1; shift <= 6; shift++) {
+            x.shift(0, shift);
+        }
+        for (int i = 0; i < 6; i++) {
+            x.undo();
+        }
         type(x, "5:0-3;6:1-1!");
         return x;
     }

@@ -383,6 +383,7 @@ public final class StatesTest extends Check {
         test("23: overwrites what was saved there", StatesTest::saveOverwrites);
         test("23: returns how many notes there are", StatesTest::saveReturns);
         test("23: is no change", StatesTest::saveNoChange);
+        test("23: what is saved stays, whatever is called", StatesTest::saveStays);
     }
 
     private static void saveSlot() {
@@ -442,6 +443,39 @@ public final class StatesTest extends Check {
         y.save(1);
         due(6, y.count(12));
         due(12, y.count(11));
+    }
+
+    private static void saveStays() {
+        MusicHoles x = rich();
+        String before = shown(x);
+        x.save(0);
+        callOthers(x);
+        due(4, x.restore(0));
+        due(before, shown(x));
+        MusicHoles y = rich();
+        callOthers(y);
+        due(NOT_POSSIBLE, y.restore(1));
+    }
+
+    /** Every method but save and restore. */
+    private static void callOthers(MusicHoles x) {
+        for (int kind = 0; kind <= 8; kind++) {
+            change(x, kind);
+        }
+        for (int what = 0; what <= 7; what++) {
+            x.of(0, what);
+            x.at(50, what);
+        }
+        x.sound(0, 0, 0);
+        x.count(2);
+        x.bestShift(0, 0);
+        x.greatestRun();
+        x.swallowed(1);
+        x.freeGoal(0, 99);
+        type(x, "1:2");
+        x.fault();
+        x.wipe();
+        x.undo();
     }
 
     // ---- promise 24
