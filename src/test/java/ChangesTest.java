@@ -143,6 +143,16 @@ public final class ChangesTest extends Check {
         due(39, x.note(0, 99, 99));
         x.drop(39);
         due(20, x.note(1, 79, 79));
+        dueNote(x, 20, 1, 79, 79, 0, 0);
+        dueNote(x, 39, 0, 98, 98, 0, 0);
+        // the fortieth one ahead of all others
+        MusicHoles y = full();
+        y.shift(39, 12);
+        y.accent(39, true);
+        y.drop(0);
+        due(0, y.note(0, 0, 0));
+        dueNote(y, 38, 2, 18, 18, 0, 0);
+        dueNote(y, 39, 3, 18, 18, 12, 1);
     }
 
     private static void noteTrack() {
@@ -245,6 +255,15 @@ public final class ChangesTest extends Check {
             dueNote(x, 0, first, 4, 5, first + 10, 0);
             dueNote(x, 1, second, 4, 5, second + 10, second == 2 ? 1 : 0);
         }
+        // of 40 notes: all others are numbered one lower
+        for (int dropped : new int[] {0, 19, 37}) {
+            MusicHoles x = full();
+            x.shift(39, 12);
+            x.accent(39, true);
+            due(39, x.drop(dropped));
+            dueNote(x, 38, 3, 18, 18, 12, 1);
+            dueNote(x, 37, 2, 18, 18, 0, 0);
+        }
     }
 
     // ---- promise 5
@@ -334,6 +353,7 @@ public final class ChangesTest extends Check {
         test("7: returns how many notes are longer then", ChangesTest::insertReturns);
         test("7: NOT_POSSIBLE if a note would end behind the step 99", ChangesTest::insertTooFar);
         test("7: into a roll without notes", ChangesTest::insertNothing);
+        test("7: notes that are gone are not longer", ChangesTest::insertGone);
         test("7: with everything full", ChangesTest::insertFull);
         test("7: shifts and accents stay", ChangesTest::insertKeeps);
     }
@@ -428,6 +448,22 @@ public final class ChangesTest extends Check {
         due(0, x.insert(99, 50));
         due(0, x.count(0));
         due(2, x.count(12));
+    }
+
+    private static void insertGone() {
+        MusicHoles x = block(3, 10, 20);
+        x.drop(2);
+        due(2, x.insert(15, 1));
+        x.cut(0, 100);
+        due(0, x.insert(15, 1));
+        MusicHoles y = block(3, 10, 20);
+        y.undo();
+        due(2, y.insert(15, 50));
+        y.save(0);
+        y.note(5, 10, 20);
+        y.restore(0);
+        due(2, y.insert(15, 1));
+        due(71, y.of(1, 2));
     }
 
     private static void insertFull() {
