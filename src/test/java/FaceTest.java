@@ -24,12 +24,22 @@ public final class FaceTest {
             "\\b(Object|Map|HashMap|Random|Thread|System\\.(?!arraycopy))\\b", "\\w+Exact\\b", "\\bvar\\b",
             "\\b(equals|hashCode|toString)\\s*\\(", "\\bstatic\\s*\\{", "import (?!java\\.util\\.Arrays;)");
 
+    private static final List<String> CONSTANT_TYPES = List.of("int", "long", "boolean", "char", "String", "int[]",
+            "long[]", "char[]", "byte[]");
+    private static final List<String> FIELD_TYPES = List.of("int", "long", "short", "byte", "char", "boolean", "String",
+            "int[]", "long[]", "short[]", "byte[]", "char[]", "boolean[]");
+
     private static int wrong = 0;
 
     public static void main(String[] args) throws Exception {
         constants();
         methods();
         nestedClasses();
+        fields(MusicHoles.class);
+        for (Class<?> nested : MusicHoles.class.getDeclaredClasses()) {
+            fields(nested);
+        }
+        methodLengths(Path.of(args[0]));
         sourceText(Path.of(args[0]));
         System.out.println(wrong == 0 ? "FaceTest: all as due" : "FaceTest: " + wrong + " not as due");
         if (wrong != 0) {
@@ -92,6 +102,34 @@ public final class FaceTest {
             }
         }
         due(true, MusicHoles.class.getDeclaredClasses().length <= 11, "number of classes");
+    }
+
+    /** Static state is constant (rule 5), and each field is of a type that rule 3 has. */
+    private static void fields(Class<?> owner) {
+        for (Field field : owner.getDeclaredFields()) {
+            boolean isStatic = Modifier.isStatic(field.getModifiers());
+            Class<?> type = field.getType();
+            due(true, !isStatic || Modifier.isFinal(field.getModifiers()), "final static " + field);
+            due(true, (isStatic ? CONSTANT_TYPES : FIELD_TYPES).contains(type.getSimpleName())
+                    || !isStatic && isOwn(type.isArray() ? type.getComponentType() : type), "type of " + field);
+        }
+    }
+
+    private static boolean isOwn(Class<?> type) {
+        return type.getName().startsWith("MusicHoles");
+    }
+
+    /** Methods are known by their indentation: one level for the class, two for those inside it. */
+    private static void methodLengths(Path source) throws IOException {
+        String text = Files.readString(source);
+        Matcher matcher = Pattern.compile("\n( {4}| {8})\\w[^\n;=]*\\)[^\n;=]*\\{\n(.*?)\n\\1\\}", Pattern.DOTALL)
+                .matcher(text);
+        int methods = 0;
+        while (matcher.find()) {
+            methods++;
+            due(true, matcher.group(2).lines().count() <= 60, "length of" + matcher.group().split("\n")[1]);
+        }
+        due(true, methods > METHODS.size(), "methods found in the source");
     }
 
     private static void sourceText(Path source) throws IOException {
